@@ -17,6 +17,7 @@ public final class PromisesTest {
         restartOfStaleCopy();
         restartLevelsTheOtherCopy();
         copiesWithoutChangeStayCurrent();
+        makingADocumentIsAChange();
         deleteIsAChange();
         refusedCallsAreNoChange();
         putOfSameCountIsAChange();
@@ -303,6 +304,18 @@ public final class PromisesTest {
         x.crash(0);
         x.restart(3);
         due.is("open(0) on the copy that was down", x.open(0), false);
+    }
+
+    private static void makingADocumentIsAChange() {
+        due.part("terms: a put of 0 that makes a document is a change");
+        ShardSearch x = new ShardSearch();
+        x.crash(4);
+        x.put(1, 0, 0);
+        x.crash(1);
+        x.restart(4);
+        due.is("open(1)", x.open(1), false);
+        x.restart(1);
+        due.is("count(1, 0)", x.count(1, 0), 0);
     }
 
     private static void deleteIsAChange() {

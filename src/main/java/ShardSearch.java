@@ -120,6 +120,7 @@ public final class ShardSearch {
                 }
             }
         }
+        // There are never more than 16 hits, so a k above 16 keeps no more than 16 does.
         int most = k < 0 ? 0 : k;
         if (kept > most) {
             kept = most;

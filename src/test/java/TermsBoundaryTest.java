@@ -657,23 +657,25 @@ public final class TermsBoundaryTest {
     private static void callsBelowChangeNothing() {
         due.part("Terms: \"The calls below change nothing that any call answers.\"");
         int[] arguments = {Integer.MIN_VALUE, -1, 0, 1, 2, 3, 5, 6, 15, 16, Integer.MAX_VALUE};
-        ShardSearch asked = twoDocumentsWithACopyDown();
-        ShardSearch quiet = twoDocumentsWithACopyDown();
+        ShardSearch asked = copiesDown();
+        ShardSearch quiet = copiesDown();
         for (int argument : arguments) {
             asked.hit(argument);
             asked.score(argument);
             asked.count(argument, 0);
             asked.count(0, argument);
             asked.count(1, argument);
+            asked.count(2, argument);
             asked.open(argument);
             asked.inPlay();
             asked.weight(argument);
         }
         int[][] later = {
             {Calls.HIT, 0}, {Calls.SCORE, 0}, {Calls.HIT, 1}, {Calls.SCORE, 1},
-            {Calls.COUNT, 0, 0}, {Calls.COUNT, 1, 0}, {Calls.COUNT, 2, 0}, {Calls.COUNT, 6, 0},
             {Calls.OPEN, 0}, {Calls.OPEN, 1}, {Calls.OPEN, 2}, {Calls.IN_PLAY}, {Calls.WEIGHT, 0},
-            {Calls.CRASH, 0}, {Calls.RESTART, 3}, {Calls.OPEN, 0}, {Calls.RESTART, 4}, {Calls.OPEN, 1},
+            {Calls.CRASH, 2}, {Calls.RESTART, 5}, {Calls.OPEN, 2}, {Calls.RESTART, 4}, {Calls.OPEN, 1},
+            {Calls.COUNT, 0, 0}, {Calls.COUNT, 1, 0}, {Calls.COUNT, 2, 1}, {Calls.COUNT, 6, 0}, {Calls.COUNT, 9, 0},
+            {Calls.CRASH, 0}, {Calls.RESTART, 3}, {Calls.OPEN, 0}, {Calls.RESTART, 0}, {Calls.COUNT, 0, 0},
             {Calls.REFRESH}, {Calls.IN_PLAY}, {Calls.SEARCH, 63, 16}, {Calls.HIT, 0}, {Calls.SCORE, 0},
         };
         for (int[] call : later) {
@@ -681,16 +683,18 @@ public final class TermsBoundaryTest {
         }
     }
 
-    /** Hits are kept; shard 0 is open without copy 3, which isn't current; shard 1 is closed. */
-    private static ShardSearch twoDocumentsWithACopyDown() {
+    /** Hits are kept; copy 3 is down and not current, copy 5 is down and current; shard 1 is closed. */
+    private static ShardSearch copiesDown() {
         ShardSearch x = new ShardSearch();
         x.put(0, 0, 2);
         x.put(1, 0, 3);
+        x.put(2, 1, 4);
         x.refresh();
         x.search(1, 16);
         x.crash(3);
         x.put(0, 0, 4);
         x.put(6, 0, 1);
+        x.crash(5);
         close(x, 1);
         return x;
     }

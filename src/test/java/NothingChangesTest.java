@@ -6,10 +6,10 @@ import java.util.TreeMap;
 import java.util.TreeSet;
 
 /**
- * "nothing changes then" (promises 2 and 3), and so for every other call that is refused or has nothing to do:
- * an object that got the call answers later calls as its twin does, which did not get it.
+ * Refused calls, crashes and restarts of nodes that are so already, and the calls that only ask:
+ * an object that got such a call answers all later calls as its twin does, which did not get it.
  */
-public final class RefusedTest {
+public final class NothingChangesTest {
     private static final int[] VALUES = {
         Integer.MIN_VALUE, Integer.MIN_VALUE + 1, -65536, -256, -16, -6, -3, -1,
         0, 1, 2, 3, 4, 5, 6, 9, 10, 15, 16, 17, 256, 65536, Integer.MAX_VALUE - 1, Integer.MAX_VALUE,
@@ -25,7 +25,7 @@ public final class RefusedTest {
         for (Map.Entry<String, int[][]> state : states().entrySet()) {
             inState(state.getKey(), state.getValue(), made);
         }
-        everyRefusalIsMade(made);
+        everyKindIsMade(made);
         for (int run = 0; run < RUNS && due.allRight(); run++) {
             mixedRun(run);
         }
@@ -40,8 +40,8 @@ public final class RefusedTest {
         }
         for (int[] call : callsWithValues()) {
             int want = Calls.make(modelIn(state), call);
-            if (isRefusal(call, want) && due.allRight()) {
-                due.part("nothing changes by " + Calls.text(call) + " in state: " + name);
+            if (changesNothing(call, want) && due.allRight()) {
+                due.part(sentence(call) + ", after " + Calls.text(call) + " in state: " + name);
                 due.is("the call itself", Calls.make(objectIn(state), call), want);
                 for (int i = 0; i < probes.length; i++) {
                     compare(probes[i], answers(state, call, probes[i]), quiet[i]);
@@ -57,23 +57,34 @@ public final class RefusedTest {
         }
     }
 
-    /** Without this a refusal that no state brings about would go untested unseen. */
-    private static void everyRefusalIsMade(Set<String> made) {
+    private static String sentence(int[] call) {
+        return switch (call[0]) {
+            case Calls.PUT -> "Promise 2: \"BAD_DOC ... BAD_TERM ... CLOSED; nothing changes then\"";
+            case Calls.DELETE -> "Promise 3: \"BAD_DOC; CLOSED; it doesn't exist: NO_DOC; nothing changes then\"";
+            case Calls.CRASH -> "Promise 5: \"BAD_NODE. Else answers 1 if it was up, 0 if not\"";
+            case Calls.RESTART -> "Promise 6: \"BAD_NODE. Else answers 1 if it was down, 0 if not\"";
+            default -> "Terms: \"The calls below change nothing that any call answers\"";
+        };
+    }
+
+    /** Without this an answer that no state brings about would go untested unseen. */
+    private static void everyKindIsMade(Set<String> made) {
         String[] wanted = {
             "put " + ShardSearch.BAD_DOC, "put " + ShardSearch.BAD_TERM, "put " + ShardSearch.CLOSED,
             "delete " + ShardSearch.BAD_DOC, "delete " + ShardSearch.CLOSED, "delete " + ShardSearch.NO_DOC,
             "crash " + ShardSearch.BAD_NODE, "crash 0", "restart " + ShardSearch.BAD_NODE, "restart 0",
-            "hit " + ShardSearch.NONE, "score 0", "open 0", "weight " + ShardSearch.BAD_TERM,
+            "hit " + ShardSearch.NONE, "hit 0", "score 0", "score 864", "open 0", "open 1", "inPlay 0", "inPlay 16",
             "count " + ShardSearch.BAD_DOC, "count " + ShardSearch.BAD_TERM,
-            "count " + ShardSearch.CLOSED, "count " + ShardSearch.NO_DOC,
+            "count " + ShardSearch.CLOSED, "count " + ShardSearch.NO_DOC, "count 0", "count 9",
+            "weight " + ShardSearch.BAD_TERM, "weight 0", "weight 16",
         };
-        due.part("refusals that the test makes");
+        due.part("answers that the test brings about");
         for (String want : wanted) {
             due.is(want, made.contains(want), true);
         }
     }
 
-    /** One object gets all calls, the other only those that aren't refused. */
+    /** One object gets all calls, the other those that change something and half of those that only ask. */
     private static void mixedRun(int run) {
         due.part("mixed run " + run);
         ShardSearch all = new ShardSearch();
@@ -83,8 +94,9 @@ public final class RefusedTest {
             int[] call = mixedCall();
             int want = Calls.make(model, call);
             due.is(Calls.text(call) + " as call " + i, Calls.make(all, call), want);
-            if (!isRefusal(call, want)) {
-                due.is(Calls.text(call) + " without the refused ones", Calls.make(some, call), want);
+            boolean asks = call[0] >= Calls.HIT;
+            if (!changesNothing(call, want) || asks && below(2) == 0) {
+                due.is(Calls.text(call) + " without some calls before", Calls.make(some, call), want);
             }
         }
     }
@@ -117,16 +129,19 @@ public final class RefusedTest {
         return (int) ((seed >>> 33) % bound);
     }
 
-    /** Refused by the document, or without anything to do. */
-    private static boolean isRefusal(int[] call, int answer) {
-        boolean mayHaveNothingToDo = call[0] == Calls.CRASH || call[0] == Calls.RESTART
-            || call[0] == Calls.OPEN || call[0] == Calls.SCORE;
-        return answer < 0 || mayHaveNothingToDo && answer == 0;
+    private static boolean changesNothing(int[] call, int answer) {
+        return switch (call[0]) {
+            case Calls.PUT, Calls.DELETE -> answer < 0;
+            case Calls.CRASH, Calls.RESTART -> answer <= 0;
+            case Calls.REFRESH, Calls.SEARCH -> false;
+            default -> true;
+        };
     }
 
     private static List<int[]> callsWithValues() {
         int[] oneArgument = {Calls.DELETE, Calls.CRASH, Calls.RESTART, Calls.HIT, Calls.SCORE, Calls.OPEN, Calls.WEIGHT};
         List<int[]> calls = new ArrayList<>();
+        calls.add(new int[] {Calls.IN_PLAY});
         for (int a : VALUES) {
             for (int call : oneArgument) {
                 calls.add(new int[] {call, a});
@@ -158,10 +173,10 @@ public final class RefusedTest {
         return x;
     }
 
-    private static int[] answers(int[][] state, int[] refused, int[][] probe) {
+    private static int[] answers(int[][] state, int[] call, int[][] probe) {
         ShardSearch x = objectIn(state);
-        if (refused != null) {
-            Calls.make(x, refused);
+        if (call != null) {
+            Calls.make(x, call);
         }
         int[] answers = new int[probe.length];
         for (int i = 0; i < probe.length; i++) {

@@ -1,4 +1,4 @@
-/** The sentences of the promises 1 to 14 that name a boundary: one test each, on both sides of it and far beyond. */
+/** The sentences of the promises 1 to 14: one test each, on both sides of each boundary and far beyond. */
 public final class PromisesBoundaryTest {
     private static final int LEAST = Integer.MIN_VALUE;
     private static final int GREATEST = Integer.MAX_VALUE;
@@ -8,6 +8,7 @@ public final class PromisesBoundaryTest {
         newObjectHasNoDocuments();
         newObjectHasNothingSearchable();
         newObjectHasNoHits();
+        putSetsHowOften();
         putMakesTheDocumentExist();
         putLeavesOtherCountsAt0IfItDidNotExist();
         putOfBadDoc();
@@ -93,6 +94,25 @@ public final class PromisesBoundaryTest {
         for (int i : Edges.outside(0, 15)) {
             due.is("hit(" + i + ")", x.hit(i), ShardSearch.NONE);
             due.is("score(" + i + ")", x.score(i), 0);
+        }
+    }
+
+    private static void putSetsHowOften() {
+        due.part("Promise 2: \"Sets how often a document has a term\"");
+        for (int doc = 0; doc <= 15; doc++) {
+            for (int term = 0; term <= 5; term++) {
+                for (int count = 0; count <= 9; count++) {
+                    ShardSearch x = full();
+                    String call = "put(" + doc + ", " + term + ", " + count + ")";
+                    due.is(call, x.put(doc, term, count), 9);
+                    for (int each = 0; each <= 15; each++) {
+                        due.is("count(" + each + ", " + term + ") after " + call, x.count(each, term), each == doc ? count : 9);
+                    }
+                    for (int each = 0; each <= 5; each++) {
+                        due.is("count(" + doc + ", " + each + ") after " + call, x.count(doc, each), each == term ? count : 9);
+                    }
+                }
+            }
         }
     }
 
@@ -295,14 +315,14 @@ public final class PromisesBoundaryTest {
             int playing = 0;
             for (int shard = 0; shard <= 2; shard++) {
                 if ((closed >> shard & 1) == 1) {
-                    close(x, shard);
+                    Clusters.close(x, shard);
                 } else {
                     playing += shard == 0 ? 6 : 5;
                 }
             }
             x.refresh();
             for (int shard = 0; shard <= 2; shard++) {
-                reopen(x, shard);
+                Clusters.reopen(x, shard);
             }
             due.is("inPlay() after a refresh with shards " + Integer.toBinaryString(closed) + " closed", x.inPlay(), playing);
         }
@@ -615,10 +635,10 @@ public final class PromisesBoundaryTest {
         x.delete(15);
         x.refresh();
         due.is("score(0) after a delete", x.score(0), 288);
-        close(x, 0);
+        Clusters.close(x, 0);
         due.is("score(0) with the shard closed", x.score(0), 288);
         due.is("hit(0) with the shard closed", x.hit(0), 15);
-        reopen(x, 0);
+        Clusters.reopen(x, 0);
         x.search(32, 16);
         due.is("score(0) of the next search", x.score(0), 144);
         due.is("hit(0) of the next search", x.hit(0), 0);
@@ -710,11 +730,11 @@ public final class PromisesBoundaryTest {
         for (int shard = 0; shard <= 2; shard++) {
             ShardSearch x = new ShardSearch();
             due.is("open(" + shard + ")", x.open(shard), true);
-            close(x, shard);
+            Clusters.close(x, shard);
             for (int each = 0; each <= 2; each++) {
                 due.is("open(" + each + ") with shard " + shard + " closed", x.open(each), each != shard);
             }
-            reopen(x, shard);
+            Clusters.reopen(x, shard);
             due.is("open(" + shard + ") again", x.open(shard), true);
         }
     }
@@ -743,7 +763,7 @@ public final class PromisesBoundaryTest {
             int playing = 16;
             for (int shard = 0; shard <= 2; shard++) {
                 if ((closed >> shard & 1) == 1) {
-                    close(y, shard);
+                    Clusters.close(y, shard);
                     playing -= shard == 0 ? 6 : 5;
                 }
             }
@@ -768,13 +788,13 @@ public final class PromisesBoundaryTest {
             x.refresh();
             due.is("weight(" + term + ") after it", x.weight(term), 48);
             x.search(63, 16);
-            close(x, 2);
+            Clusters.close(x, 2);
             due.is("weight(" + term + ") with shard 2 closed", x.weight(term), 32);
-            close(x, 1);
+            Clusters.close(x, 1);
             due.is("weight(" + term + ") with shard 1 closed too", x.weight(term), 16);
-            close(x, 0);
+            Clusters.close(x, 0);
             due.is("weight(" + term + ") with all closed", x.weight(term), 0);
-            reopen(x, 1);
+            Clusters.reopen(x, 1);
             due.is("weight(" + term + ") with only shard 1 open", x.weight(term), 0);
         }
     }
@@ -846,7 +866,7 @@ public final class PromisesBoundaryTest {
         ShardSearch x = new ShardSearch();
         x.put(0, 0, 0);
         x.put(1, 0, 0);
-        close(x, 1);
+        Clusters.close(x, 1);
         return x;
     }
 
@@ -870,15 +890,5 @@ public final class PromisesBoundaryTest {
         }
         x.refresh();
         return x;
-    }
-
-    private static void close(ShardSearch x, int shard) {
-        x.crash(shard);
-        x.crash(shard + 3);
-    }
-
-    private static void reopen(ShardSearch x, int shard) {
-        x.restart(shard);
-        x.restart(shard + 3);
     }
 }

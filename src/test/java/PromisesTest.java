@@ -36,6 +36,7 @@ public final class PromisesTest {
         refusalOrder();
         askingChangesNothing();
         objectsAreApart();
+        readmeExample();
         due.end();
     }
 
@@ -107,11 +108,11 @@ public final class PromisesTest {
         x.put(1, 0, 4);
         x.put(1, 0, 10);
         due.is("count(1, 0) is kept", x.count(1, 0), 4);
-        closeShard(x, 1);
+        Clusters.close(x, 1);
         due.is("put(1, 0, 5) closed", x.put(1, 0, 5), ShardSearch.CLOSED);
         due.is("put(13, 0, 5) closed", x.put(13, 0, 5), ShardSearch.CLOSED);
         due.is("put(2, 0, 5) in another shard", x.put(2, 0, 5), 0);
-        openShard(x, 1);
+        Clusters.reopen(x, 1);
         due.is("count(1, 0) after closed", x.count(1, 0), 4);
         due.is("count(13, 0) after closed", x.count(13, 0), ShardSearch.NO_DOC);
     }
@@ -138,10 +139,10 @@ public final class PromisesTest {
         x.put(7, 1, 1);
         x.put(8, 1, 1);
         x.refresh();
-        closeShard(x, 1);
+        Clusters.close(x, 1);
         due.is("delete(7) closed", x.delete(7), ShardSearch.CLOSED);
         due.is("delete(4) closed", x.delete(4), ShardSearch.CLOSED);
-        openShard(x, 1);
+        Clusters.reopen(x, 1);
         due.is("count(7, 1)", x.count(7, 1), 1);
         due.is("delete(7)", x.delete(7), 0);
         due.is("delete(7) again", x.delete(7), ShardSearch.NO_DOC);
@@ -186,20 +187,20 @@ public final class PromisesTest {
         for (int doc = 0; doc < 3; doc++) {
             x.put(doc, 0, 2);
         }
-        closeShard(x, 0);
+        Clusters.close(x, 0);
         due.is("refresh() with one closed", x.refresh(), 2);
-        openShard(x, 0);
+        Clusters.reopen(x, 0);
         x.search(1, 16);
         due.is("hit(0)", x.hit(0), 1);
         due.is("score(0)", x.score(0), 32);
         due.is("hit(2): the closed one kept its last refresh", x.hit(2), 0);
         due.is("score(2)", x.score(2), 16);
-        closeShard(x, 0);
-        closeShard(x, 1);
+        Clusters.close(x, 0);
+        Clusters.close(x, 1);
         due.is("refresh() with two closed", x.refresh(), 1);
-        closeShard(x, 2);
+        Clusters.close(x, 2);
         due.is("refresh() with all closed", x.refresh(), 0);
-        openShard(x, 0);
+        Clusters.reopen(x, 0);
         due.is("refresh() with one open", x.refresh(), 1);
         x.search(1, 16);
         due.is("score(0) of doc 0", x.score(0), 32);
@@ -506,7 +507,7 @@ public final class PromisesTest {
         for (int term : badTerms) {
             due.is("count(0, " + term + ")", x.count(0, term), ShardSearch.BAD_TERM);
         }
-        closeShard(x, 0);
+        Clusters.close(x, 0);
         due.is("count(0, 0)", x.count(0, 0), ShardSearch.CLOSED);
     }
 
@@ -538,13 +539,13 @@ public final class PromisesTest {
             x.refresh();
             due.is("inPlay() after refresh", x.inPlay(), doc + 1);
         }
-        closeShard(x, 0);
+        Clusters.close(x, 0);
         due.is("inPlay() without shard 0", x.inPlay(), 10);
-        closeShard(x, 1);
+        Clusters.close(x, 1);
         due.is("inPlay() without shards 0, 1", x.inPlay(), 5);
-        closeShard(x, 2);
+        Clusters.close(x, 2);
         due.is("inPlay() without any", x.inPlay(), 0);
-        openShard(x, 0);
+        Clusters.reopen(x, 0);
         due.is("inPlay() with shard 0", x.inPlay(), 6);
     }
 
@@ -580,7 +581,7 @@ public final class PromisesTest {
     private static void closedShardsAreOutOfPlay() {
         due.part("terms: closed shards");
         ShardSearch x = threeDocuments();
-        closeShard(x, 1);
+        Clusters.close(x, 1);
         due.is("inPlay()", x.inPlay(), 2);
         due.is("weight(0)", x.weight(0), 32);
         due.is("weight(1)", x.weight(1), 32);
@@ -589,7 +590,7 @@ public final class PromisesTest {
         due.is("score(0)", x.score(0), 160);
         due.is("hit(1)", x.hit(1), 0);
         due.is("score(1)", x.score(1), 64);
-        openShard(x, 1);
+        Clusters.reopen(x, 1);
         due.is("search(3, 16) open again", x.search(3, 16), 3);
         due.is("score(0)", x.score(0), 240);
     }
@@ -598,7 +599,7 @@ public final class PromisesTest {
         due.part("14 order");
         ShardSearch x = new ShardSearch();
         for (int shard = 0; shard < 3; shard++) {
-            closeShard(x, shard);
+            Clusters.close(x, shard);
         }
         due.is("put: doc before term", x.put(16, 6, 1), ShardSearch.BAD_DOC);
         due.is("put: doc before count", x.put(-1, 0, 10), ShardSearch.BAD_DOC);
@@ -643,6 +644,33 @@ public final class PromisesTest {
         due.is("crash(0)", y.crash(0), 1);
     }
 
+    /** The calls of README.md's example, with the answers that it tells. */
+    private static void readmeExample() {
+        due.part("README.md");
+        ShardSearch cluster = new ShardSearch();
+        due.is("put(4, 0, 2)", cluster.put(4, 0, 2), 0);
+        due.is("put(5, 1, 1)", cluster.put(5, 1, 1), 0);
+        due.is("search(1 << 0, 10) before", cluster.search(1 << 0, 10), 0);
+        due.is("refresh()", cluster.refresh(), 3);
+        due.is("inPlay()", cluster.inPlay(), 2);
+        due.is("weight(0)", cluster.weight(0), 32);
+        due.is("search(1 << 0 | 1 << 1, 10)", cluster.search(1 << 0 | 1 << 1, 10), 2);
+        due.is("hit(0)", cluster.hit(0), 4);
+        due.is("score(0)", cluster.score(0), 64);
+        due.is("hit(2)", cluster.hit(2), ShardSearch.NONE);
+        due.is("crash(1)", cluster.crash(1), 1);
+        due.is("put(4, 0, 3)", cluster.put(4, 0, 3), 2);
+        due.is("crash(4)", cluster.crash(4), 1);
+        due.is("count(4, 0)", cluster.count(4, 0), ShardSearch.CLOSED);
+        due.is("restart(1)", cluster.restart(1), 1);
+        due.is("open(1) without the put", cluster.open(1), false);
+        due.is("restart(4)", cluster.restart(4), 1);
+        due.is("open(1)", cluster.open(1), true);
+        due.is("count(4, 0) again", cluster.count(4, 0), 3);
+        due.is("delete(4)", cluster.delete(4), 0);
+        due.is("hit(0) still", cluster.hit(0), 4);
+    }
+
     /** Searchable: 0 has term 0 twice, 1 has it three times, 2 has term 1 five times. */
     private static ShardSearch threeDocuments() {
         ShardSearch x = new ShardSearch();
@@ -651,15 +679,5 @@ public final class PromisesTest {
         x.put(2, 1, 5);
         x.refresh();
         return x;
-    }
-
-    private static void closeShard(ShardSearch x, int shard) {
-        x.crash(shard);
-        x.crash(shard + 3);
-    }
-
-    private static void openShard(ShardSearch x, int shard) {
-        x.restart(shard);
-        x.restart(shard + 3);
     }
 }

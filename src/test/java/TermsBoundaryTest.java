@@ -1,4 +1,4 @@
-/** The sentences of "What it is" and "Terms" that name a boundary: one test each, on both sides of it and far beyond. */
+/** The sentences of "What it is" and "Terms": one test each, on both sides of each boundary and far beyond. */
 public final class TermsBoundaryTest {
     private static final Due due = new Due();
 
@@ -22,7 +22,9 @@ public final class TermsBoundaryTest {
         copyThatIsUpIsMadeCurrentAtOnce();
         searchableOnlyAfterARefresh();
         searchableAsAtTheLastRefreshWhileOpen();
+        searchableIsBesideTheDocumentsAsTheyAre();
         inPlayIfSearchableAndOpen();
+        nIsHowManyAreInPlay();
         termAtLeastOnce();
         weightIsRoundedDown();
         weightIs0IfNoneHasTheTerm();
@@ -148,7 +150,7 @@ public final class TermsBoundaryTest {
                 x.put(doc, 0, 1);
             }
             x.refresh();
-            close(x, shard);
+            Clusters.close(x, shard);
             for (int doc = 0; doc <= 15; doc++) {
                 boolean closed = doc % 3 == shard;
                 String with = " with shard " + shard + " closed";
@@ -419,9 +421,9 @@ public final class TermsBoundaryTest {
             x.refresh();
             x.put(shard, 0, 2);
             x.put(shard + 3, 0, 3);
-            close(x, shard);
+            Clusters.close(x, shard);
             x.refresh();
-            reopen(x, shard);
+            Clusters.reopen(x, shard);
             due.is("inPlay() after a refresh while shard " + shard + " was closed", x.inPlay(), 1);
             x.search(1, 16);
             due.is("score(0) after it", x.score(0), 16);
@@ -433,10 +435,41 @@ public final class TermsBoundaryTest {
 
             ShardSearch never = new ShardSearch();
             never.put(shard, 0, 1);
-            close(never, shard);
+            Clusters.close(never, shard);
             never.refresh();
-            reopen(never, shard);
+            Clusters.reopen(never, shard);
             due.is("inPlay() with shard " + shard + " never open at a refresh", never.inPlay(), 0);
+        }
+    }
+
+    private static void searchableIsBesideTheDocumentsAsTheyAre() {
+        due.part("Terms: \"there is, besides its documents as they are, what they were at its last refresh\"");
+        for (int shard = 0; shard <= 2; shard++) {
+            int changed = shard + 3;
+            int deleted = shard + 6;
+            int made = shard + 9;
+            ShardSearch x = new ShardSearch();
+            x.put(changed, 0, 2);
+            x.put(deleted, 0, 1);
+            x.refresh();
+            x.put(changed, 0, 5);
+            x.delete(deleted);
+            x.put(made, 0, 9);
+            due.is("count(" + changed + ", 0), changed since", x.count(changed, 0), 5);
+            due.is("count(" + deleted + ", 0), deleted since", x.count(deleted, 0), ShardSearch.NO_DOC);
+            due.is("count(" + made + ", 0), made since", x.count(made, 0), 9);
+            due.is("search(1, 16)", x.search(1, 16), 2);
+            due.is("hit(0)", x.hit(0), changed);
+            due.is("score(0)", x.score(0), 32);
+            due.is("hit(1)", x.hit(1), deleted);
+            due.is("score(1)", x.score(1), 16);
+
+            // Put again, it is another document as it is, and still the old one as searchable.
+            x.put(deleted, 1, 7);
+            due.is("count(" + deleted + ", 0), put again with another term", x.count(deleted, 0), 0);
+            due.is("search(1, 16) after that", x.search(1, 16), 2);
+            due.is("score(1) after that", x.score(1), 16);
+            due.is("search(2, 16) after that", x.search(2, 16), 0);
         }
     }
 
@@ -450,7 +483,7 @@ public final class TermsBoundaryTest {
             due.is("inPlay(): exists as searchable, without any term", x.inPlay(), 1);
             x.delete(shard);
             due.is("inPlay(): exists as searchable only", x.inPlay(), 1);
-            close(x, shard);
+            Clusters.close(x, shard);
             due.is("inPlay(): shard " + shard + " is closed", x.inPlay(), 0);
             x.restart(shard);
             due.is("inPlay(): shard " + shard + " is open on one copy", x.inPlay(), 1);
@@ -460,6 +493,31 @@ public final class TermsBoundaryTest {
             x.refresh();
             due.is("inPlay(): exists no more", x.inPlay(), 0);
         }
+    }
+
+    private static void nIsHowManyAreInPlay() {
+        due.part("Terms: \"N is how many these are\"");
+        ShardSearch x = new ShardSearch();
+        for (int doc = 0; doc <= 15; doc++) {
+            x.put(doc, 0, doc == 0 ? 1 : 0);
+            due.is("weight(0) with document " + doc + " not searchable", x.weight(0), 16 * doc);
+            x.refresh();
+            due.is("weight(0) with documents 0 to " + doc, x.weight(0), 16 * (doc + 1));
+            x.search(1, 16);
+            due.is("score(0) with documents 0 to " + doc, x.score(0), 16 * (doc + 1));
+        }
+        Clusters.close(x, 1);
+        due.is("weight(0) without the 5 of shard 1", x.weight(0), 16 * 11);
+        Clusters.close(x, 2);
+        due.is("weight(0) without the 5 of shard 2 too", x.weight(0), 16 * 6);
+        x.search(1, 16);
+        due.is("score(0) without them", x.score(0), 16 * 6);
+        x.delete(3);
+        due.is("weight(0) with document 3 deleted, but searchable", x.weight(0), 16 * 6);
+        x.refresh();
+        due.is("weight(0) without document 3", x.weight(0), 16 * 5);
+        Clusters.reopen(x, 1);
+        due.is("weight(0) with the 5 of shard 1 again", x.weight(0), 16 * 10);
     }
 
     private static void termAtLeastOnce() {
@@ -481,7 +539,7 @@ public final class TermsBoundaryTest {
             due.is("weight(" + term + ") with counts 0 and 9", x.weight(term), 32);
             x.put(1, term, 9);
             x.refresh();
-            close(x, 1);
+            Clusters.close(x, 1);
             due.is("weight(" + term + ") with a closed one that has it", x.weight(term), 32);
         }
     }
@@ -516,7 +574,7 @@ public final class TermsBoundaryTest {
         }
         ShardSearch x = documentsWithTerm(1, 1, 3);
         due.is("weight(3) with D 1", x.weight(3), 16);
-        close(x, 0);
+        Clusters.close(x, 0);
         due.is("weight(3) with the only one closed", x.weight(3), 0);
     }
 
@@ -571,7 +629,7 @@ public final class TermsBoundaryTest {
         x.put(7, 3, 0);
         x.refresh();
         due.is("search(8, 16) with one at count 0", x.search(8, 16), 15);
-        close(x, 2);
+        Clusters.close(x, 2);
         due.is("search(8, 16) with shard 2 closed", x.search(8, 16), 10);
     }
 
@@ -695,7 +753,7 @@ public final class TermsBoundaryTest {
         x.put(0, 0, 4);
         x.put(6, 0, 1);
         x.crash(5);
-        close(x, 1);
+        Clusters.close(x, 1);
         return x;
     }
 
@@ -719,15 +777,5 @@ public final class TermsBoundaryTest {
 
     private static int other(int copy) {
         return (copy + 3) % 6;
-    }
-
-    private static void close(ShardSearch x, int shard) {
-        x.crash(shard);
-        x.crash(shard + 3);
-    }
-
-    private static void reopen(ShardSearch x, int shard) {
-        x.restart(shard);
-        x.restart(shard + 3);
     }
 }
